@@ -503,7 +503,7 @@ public final class BoundWright {
      * itself and gives back at its end. Each is there once, so two are the same if their numbers are.
      */
     private static final class Forms {
-        private static final int ROOM = 400;
+        private static final int ROOM = 256;
         private static final int DEEPEST = 30;
         private static final int CHAINS = 64;
         private static final int MODULUS = 99991;
