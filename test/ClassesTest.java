@@ -1,16 +1,5 @@
 /** Promises 1 to 5: a new object, and the classes. */
-final class ClassesTest {
-    private static final int INT = 0;
-    private static final int NULL = 1;
-    private static final int OBJECT = 2;
-    private static final int BOX = 3;
-    private static final int VARIABLE = 4;
-    private static final int NONE = -1;
-    private static final int MOST = Integer.MAX_VALUE;
-    private static final int LEAST = Integer.MIN_VALUE;
-
-    private final Check check = new Check("ClassesTest");
-
+final class ClassesTest extends Promises {
     public static void main(String[] arguments) {
         ClassesTest test = new ClassesTest();
         test.newObject();

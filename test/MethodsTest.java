@@ -1,21 +1,5 @@
 /** Promises 14 to 18: the methods, and calls. */
-final class MethodsTest {
-    private static final int INT = 0;
-    private static final int NULL = 1;
-    private static final int OBJECT = 2;
-    private static final int BOX = 3;
-    private static final int VARIABLE = 4;
-    private static final int NONE = -1;
-    private static final int ANY = -1;
-    private static final int AMBIGUOUS = -2;
-    private static final int NEITHER = 0;
-    private static final int OUT = 1;
-    private static final int IN = 2;
-    private static final int MOST = Integer.MAX_VALUE;
-    private static final int LEAST = Integer.MIN_VALUE;
-
-    private final Check check = new Check("MethodsTest");
-
+final class MethodsTest extends Promises {
     public static void main(String[] arguments) {
         MethodsTest test = new MethodsTest();
         test.methodTells();
@@ -37,18 +21,6 @@ final class MethodsTest {
         test.callOnVariable();
         test.callRefuses();
         test.check.end();
-    }
-
-    private static int exact(int type) {
-        return 3 * type;
-    }
-
-    private static int out(int type) {
-        return 3 * type + OUT;
-    }
-
-    private static int in(int type) {
-        return 3 * type + IN;
     }
 
     private static int plainMethod(BoundWright x, int kind, int name, int first, int second) {

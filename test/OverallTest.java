@@ -1,19 +1,5 @@
 /** Promises 19 to 24: faults, counts, what would be, and the checksum. */
-final class OverallTest {
-    private static final int INT = 0;
-    private static final int OBJECT = 2;
-    private static final int BOX = 3;
-    private static final int VARIABLE = 4;
-    private static final int NONE = -1;
-    private static final int ANY = -1;
-    private static final int NEITHER = 0;
-    private static final int OUT = 1;
-    private static final int IN = 2;
-    private static final int MOST = Integer.MAX_VALUE;
-    private static final int LEAST = Integer.MIN_VALUE;
-
-    private final Check check = new Check("OverallTest");
-
+final class OverallTest extends Promises {
     public static void main(String[] arguments) {
         OverallTest test = new OverallTest();
         test.faultOfTwoWays();
@@ -32,14 +18,6 @@ final class OverallTest {
         test.digestSums();
         test.askingChangesNothing();
         test.check.end();
-    }
-
-    private static int exact(int type) {
-        return 3 * type;
-    }
-
-    private static int in(int type) {
-        return 3 * type + IN;
     }
 
     /** All faults, one after the other: each as its number, its class, and its method. */
@@ -363,13 +341,20 @@ final class OverallTest {
         check.due("the greater number goes", x.faultsWithout(again), 3);
         faults("nothing is changed", x, 3, list, clash, 4, list, clash, 5, low, over, 4, low, again);
         check.due("many(2)", x.many(2), 5);
+        int single = method(x, 0, 1, NONE, NONE, BOX);
+        int worse = method(x, low, 1, NONE, NONE, OBJECT);
+        check.due("5 is there", x.many(3), 5);
+        check.due("5 goes with what it overrides", x.faultsWithout(single), 4);
+        x.method(list, 1, NONE, NONE, NONE, BOX, false);
+        check.due("5 stays by another that it overrides", x.faultsWithout(single), 5);
+        check.due("the method itself", x.faultsWithout(worse), 4);
         int boxes = x.kind(NEITHER, NONE, false);
         x.bound(boxes, 0, BOX);
         x.extend(boxes, x.of(list, exact(OBJECT), 0));
         int last = x.kind(NONE, NONE, false);
         x.extend(last, x.of(boxes, exact(OBJECT), 0));
-        check.due("2 stays", x.faultsWithout(again), 4);
-        for (int none : new int[] {-1, 5, 20, MOST, LEAST}) {
+        check.due("2 stays", x.faultsWithout(again), 5);
+        for (int none : new int[] {-1, 8, 20, MOST, LEAST}) {
             check.bounds("faultsWithout(" + none + ")", x, () -> x.faultsWithout(none));
         }
     }

@@ -1,20 +1,6 @@
 /** Promises 6 to 13: the types. A type that is due is mostly told, too, and its CODE taken from ofType(). */
-final class TypesTest {
-    private static final int INT = 0;
-    private static final int NULL = 1;
-    private static final int OBJECT = 2;
-    private static final int BOX = 3;
-    private static final int VARIABLE = 4;
-    private static final int NONE = -1;
-    private static final int ANY = -1;
-    private static final int NEITHER = 0;
-    private static final int OUT = 1;
-    private static final int IN = 2;
-    private static final int MOST = Integer.MAX_VALUE;
-    private static final int LEAST = Integer.MIN_VALUE;
+final class TypesTest extends Promises {
     private static final int[] NO_TYPE = {-1, 5, 33, MOST, LEAST};
-
-    private final Check check = new Check("TypesTest");
 
     public static void main(String[] arguments) {
         TypesTest test = new TypesTest();
@@ -41,18 +27,6 @@ final class TypesTest {
         test.areAllOfWhatCannotBe();
         test.refusals();
         test.check.end();
-    }
-
-    private static int exact(int type) {
-        return 3 * type;
-    }
-
-    private static int out(int type) {
-        return 3 * type + OUT;
-    }
-
-    private static int in(int type) {
-        return 3 * type + IN;
     }
 
     private static int code(BoundWright x, int type) {
@@ -213,6 +187,7 @@ final class TypesTest {
             check.due("ofType(" + types[k] + ", 3)", x.ofType(types[k], 3), closed[k]);
             check.due("ofType(" + types[k] + ", 4)", x.ofType(types[k], 4), 1);
         }
+        check.due("CODE of an ARRAY, the rest", code(x, x.array(twice)), 17 * 6939 + 5 - 99991);
         int ints = x.array(INT);
         check.due("ERASED of an ARRAY of INT", x.ofType(ints, 1), 1100);
         check.due("ERASED of an ARRAY of VARIABLE", x.ofType(x.array(VARIABLE), 1), 1000);
@@ -386,27 +361,63 @@ final class TypesTest {
     }
 
     /**
-     * A0 is below N of A1, which is IN, if A1 is below N of A2, and so on, each 1 deeper; at last, 7 deep, A7 is asked
-     * about, which extends L of BOX.
+     * Classes A0 to A7: A0 is below N of A1, which is IN, if A1 is below N of A2, and so on, each 1 deeper; at last,
+     * 7 deep, A7 is asked about, which extends L of BOX.
      */
-    private boolean isChainBelow(int endArgument, int varianceOfEnd, int from) {
-        BoundWright x = new BoundWright();
-        int n = x.kind(IN, NONE, false);
-        int l = x.kind(varianceOfEnd, NONE, false);
-        int[] kinds = new int[8];
-        int[] types = new int[8];
-        int[] ofTypes = new int[8];
-        for (int k = 0; k < 8; k++) {
-            kinds[k] = x.kind(NONE, NONE, false);
-            types[k] = x.of(kinds[k], 0, 0);
-            ofTypes[k] = k == 0 ? NONE : x.of(n, exact(types[k]), 0);
+    private static final class Chain {
+        final BoundWright x = new BoundWright();
+        final int n = x.kind(IN, NONE, false);
+        final int[] kinds = new int[8];
+        final int[] types = new int[8];
+        final int[] ofTypes = new int[8];
+
+        /** From the class before skipped, none is told to extend anything: what its test wants. */
+        Chain(int endArgument, int varianceOfEnd, int skipped) {
+            int l = x.kind(varianceOfEnd, NONE, false);
+            for (int k = 0; k < 8; k++) {
+                kinds[k] = x.kind(NONE, NONE, false);
+                types[k] = x.of(kinds[k], 0, 0);
+                ofTypes[k] = k == 0 ? NONE : x.of(n, exact(types[k]), 0);
+            }
+            for (int k = skipped; k < 6; k++) {
+                x.extend(kinds[k], x.of(n, exact(ofTypes[k + 2]), 0));
+            }
+            x.extend(kinds[6], x.of(n, exact(x.of(l, endArgument, 0)), 0));
+            x.extend(kinds[7], x.of(l, exact(BOX), 0));
         }
-        for (int k = 0; k < 6; k++) {
-            x.extend(kinds[k], x.of(n, exact(ofTypes[k + 2]), 0));
-        }
-        x.extend(kinds[6], x.of(n, exact(x.of(l, endArgument, 0)), 0));
-        x.extend(kinds[7], x.of(l, exact(BOX), 0));
-        return x.isBelow(types[from], ofTypes[from + 1]);
+    }
+
+    private static boolean isChainBelow(int endArgument, int varianceOfEnd, int from) {
+        Chain chain = new Chain(endArgument, varianceOfEnd, 0);
+        return chain.x.isBelow(chain.types[from], chain.ofTypes[from + 1]);
+    }
+
+    /** The chain from the class on, 1 deeper: a PARAMETER stands for what is asked about first. */
+    private static boolean isBoundBelow(int from) {
+        Chain chain = new Chain(exact(BOX), NEITHER, 0);
+        BoundWright x = chain.x;
+        int kind = x.kind(NEITHER, NONE, false);
+        int parameter = x.parameter(kind, 0);
+        x.bound(kind, 0, chain.types[from + 1]);
+        return x.isBelow(chain.types[from], x.of(chain.n, exact(parameter), 0));
+    }
+
+    /** The chain from the class on, 1 deeper: ARRAYS of what is asked about first. */
+    private static boolean isArrayBelow(int from) {
+        Chain chain = new Chain(exact(BOX), NEITHER, from + 1);
+        BoundWright x = chain.x;
+        x.extend(chain.kinds[from], x.of(chain.n, exact(x.array(chain.ofTypes[from + 2])), 0));
+        return x.isBelow(chain.types[from], x.of(chain.n, exact(x.array(chain.types[from + 1])), 0));
+    }
+
+    /** Whether what extends the SEALED class with A of that number cannot be what is asked about. */
+    private static boolean isCovered(int from) {
+        Chain chain = new Chain(exact(BOX), NEITHER, 0);
+        BoundWright x = chain.x;
+        int kind = x.kind(OUT, NONE, true);
+        int low = x.kind(NONE, NONE, false);
+        x.extend(low, x.of(kind, exact(chain.types[from]), 0));
+        return x.areAll(x.of(kind, exact(chain.ofTypes[from + 1]), 0), 0);
     }
 
     private void belowIsEightDeep() {
@@ -417,6 +428,12 @@ final class TypesTest {
         check.due("the same OUT is 7 deep", isChainBelow(exact(BOX), OUT, 1), true);
         check.due("the same IN is 8 deep", isChainBelow(exact(BOX), IN, 0), false);
         check.due("the same IN is 7 deep", isChainBelow(exact(BOX), IN, 1), true);
+        check.due("of a BOUND it is 8 deep", isBoundBelow(0), false);
+        check.due("of a BOUND it is 7 deep", isBoundBelow(1), true);
+        check.due("of ARRAYS it is 8 deep", isArrayBelow(0), false);
+        check.due("of ARRAYS it is 7 deep", isArrayBelow(1), true);
+        check.due("for areAll() it is 8 deep: it cannot be", isCovered(0), true);
+        check.due("for areAll() it is 7 deep: it can be", isCovered(1), false);
         BoundWright x = new BoundWright();
         int n = x.kind(IN, NONE, false);
         int c = x.kind(NONE, NONE, false);
@@ -616,6 +633,9 @@ final class TypesTest {
         check.due("none", x.areAll(shapeType, 0), false);
         check.due("not SEALED", x.areAll(x.of(square, 0, 0), 1 << disc), false);
         check.due("SEALED, and none extends it", x.areAll(x.of(empty, 0, 0), 0), true);
+        x.extend(empty, shapeType);
+        check.due("what extends it is SEALED, and none extends that", x.areAll(shapeType, (1 << disc) + (1 << square)),
+                true);
         check.due("all", x.areAll(shapeType, (1 << 7) - 1), true);
         check.due("OBJECT", x.areAll(OBJECT, (1 << 7) - 2), false);
         for (int type : new int[] {INT, NULL, VARIABLE, x.array(shapeType)}) {

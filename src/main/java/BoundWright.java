@@ -620,7 +620,7 @@ public final class BoundWright {
             }
         }
 
-        /** The type with these arguments put in for the parameters of that class, asked 0 deep. */
+        /** The type with these arguments put in for the parameters of that class. */
         private int put(int form, int kind, int one, int two, int depth) {
             if ((owners[form] >> kind & 1) == 0 || depth > DEEPEST) {
                 return form;
@@ -934,7 +934,12 @@ public final class BoundWright {
                     higher |= kinds.above[kind];
                 }
             }
-            return Integer.numberOfTrailingZeros(shared & ~higher);
+            for (int kind = 0; kind < kinds.count; kind++) {
+                if (((shared & ~higher) >> kind & 1) != 0) {
+                    return kind;
+                }
+            }
+            return OBJECT_KIND;
         }
 
         private int joinedArgument(int one, int other, int kind, int which, boolean isInner, int depth) {
