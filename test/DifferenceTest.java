@@ -340,9 +340,11 @@ final class DifferenceTest {
         int method = wild(one(Math.max(1, y.many(2))));
         switch (one(20)) {
             case 0:
-                return same("ofKind(" + kind + ", " + what + ")", () -> x.ofKind(kind, what), () -> y.ofKind(kind, what));
+                return same("ofKind(" + kind + ", " + what + ")",
+                        () -> x.ofKind(kind, what), () -> y.ofKind(kind, what));
             case 1:
-                return same("ofType(" + type + ", " + what + ")", () -> x.ofType(type, what), () -> y.ofType(type, what));
+                return same("ofType(" + type + ", " + what + ")",
+                        () -> x.ofType(type, what), () -> y.ofType(type, what));
             case 2:
                 return same("isBelow(" + type + ", " + other + ")",
                         () -> x.isBelow(type, other), () -> y.isBelow(type, other));
@@ -372,7 +374,8 @@ final class DifferenceTest {
                 return same("pairsWith(" + kind + ", " + parameter + ", " + what % 3 + ")",
                         () -> x.pairsWith(kind, parameter, what % 3), () -> y.pairsWith(kind, parameter, what % 3));
             case 13:
-                return same("faultsWithout(" + method + ")", () -> x.faultsWithout(method), () -> y.faultsWithout(method));
+                return same("faultsWithout(" + method + ")",
+                        () -> x.faultsWithout(method), () -> y.faultsWithout(method));
             case 14:
                 return one(4) != 0 || same("digest()", () -> x.digest(), () -> y.digest());
             default:

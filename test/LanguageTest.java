@@ -12,9 +12,10 @@ final class LanguageTest {
     private static final int MOST_PARAMETERS = 7;
     private static final int MOST_CLASSES = 12;
     private static final String[] NEVER = {
-        "\\btry\\b", "\\bcatch\\b", "\\bfinally\\b", "\\bsynchronized\\b", "\\bassert\\b", "->", "::", "\\binstanceof\\b",
-        "\\bstatic\\s*\\{", "\\bSystem\\b", "\\bThread\\b", "\\bRandom\\b", "\\bvar\\b", "Exact\\(", "\\bequals\\(",
-        "\\bhashCode\\(", "\\btoString\\(", "\"\"\\s*\\+|\\+\\s*\"\"", "\\bpackage\\b", "\\bprotected\\b",
+        "\\btry\\b", "\\bcatch\\b", "\\bfinally\\b", "\\bsynchronized\\b", "\\bassert\\b", "->", "::",
+        "\\binstanceof\\b", "\\bstatic\\s*\\{", "\\bSystem\\b", "\\bThread\\b", "\\bRandom\\b", "\\bvar\\b",
+        "Exact\\(", "\\bequals\\(", "\\bhashCode\\(", "\\btoString\\(", "\"\"\\s*\\+|\\+\\s*\"\"", "\\bpackage\\b",
+        "\\bprotected\\b",
     };
 
     private final Check check = new Check("LanguageTest");
@@ -52,7 +53,8 @@ final class LanguageTest {
 
     private void sizes(String text) {
         check.due("rule 11, classes", count(text, "\\b(class|interface|enum|record) \\w+") <= MOST_CLASSES, true);
-        Matcher method = Pattern.compile("\n {4,8}(?:[a-z]+ )*[A-Za-z\\[\\]]+ (\\w+)\\(([^)]*)\\)[^;{]*\\{").matcher(text);
+        String header = "\n {4,8}(?:[a-z]+ )*[A-Za-z\\[\\]]+ (\\w+)\\(([^)]*)\\)[^;{]*\\{";
+        Matcher method = Pattern.compile(header).matcher(text);
         int methods = 0;
         while (method.find()) {
             methods++;

@@ -85,7 +85,8 @@ final class MethodsTest extends Promises {
             check.bounds("second " + none, x, () -> x.method(0, 0, INT, none, NONE, INT, false));
             check.bounds("third " + none, x, () -> x.method(0, 0, INT, INT, none, INT, false));
             check.bounds("result " + none, x, () -> x.method(0, 0, NONE, NONE, NONE, none, false));
-            check.bounds("third behind NONE, with no name, first", x, () -> x.method(0, 9, NONE, NONE, none, NULL, true));
+            check.bounds("third behind NONE, with no name, first", x,
+                    () -> x.method(0, 9, NONE, NONE, none, NULL, true));
         }
         check.bounds("result NONE", x, () -> x.method(0, 0, NONE, NONE, NONE, NONE, false));
         for (int wrong : new int[] {-1, 8, MOST, LEAST}) {

@@ -540,7 +540,8 @@ final class TypesTest extends Promises {
         join("EXACT and OUT", x, ofBox, x.of(list, out(leftType), 0), code(x, outOfObject));
         join("EXACT and IN", x, ofBox, x.of(list, in(leftType), 0), code(x, ofAny));
         join("EXACT and ANY", x, ofBox, ofAny, code(x, ofAny));
-        join("IN of the parameter", x, x.of(sink, exact(BOX), 0), x.of(sink, exact(leftType), 0), code(x, x.of(sink, ANY, 0)));
+        join("IN of the parameter", x, x.of(sink, exact(BOX), 0), x.of(sink, exact(leftType), 0),
+                code(x, x.of(sink, ANY, 0)));
         join("OUT of the parameter", x, x.of(source, exact(BOX), 0), x.of(source, exact(leftType), 0),
                 code(x, x.of(source, out(OBJECT), 0)));
         int nested = x.of(list, out(ofAny), 0);

@@ -89,7 +89,8 @@ public final class BoundWright {
         return before;
     }
 
-    public int extend(int kind, int type) throws IndexOutOfBoundsException, IllegalArgumentException, IllegalStateException {
+    public int extend(int kind, int type)
+            throws IndexOutOfBoundsException, IllegalArgumentException, IllegalStateException {
         needKind(kind);
         needType(type);
         if (kind == OBJECT_KIND || kind == BOX_KIND || !isExtendable(type, kind)) {
@@ -128,7 +129,8 @@ public final class BoundWright {
 
     // ---- types
 
-    public int of(int kind, int first, int second) throws IndexOutOfBoundsException, IllegalArgumentException, IllegalStateException {
+    public int of(int kind, int first, int second)
+            throws IndexOutOfBoundsException, IllegalArgumentException, IllegalStateException {
         needKind(kind);
         if (!isArgument(kind, 0, first) || !isArgument(kind, 1, second)
                 || forms.deepOf(IS_CLASS, first, second) > DEEPEST_TOLD) {
@@ -338,7 +340,8 @@ public final class BoundWright {
 
     // ---- what would be (nothing is changed)
 
-    public int pairsWith(int kind, int parameter, int variance) throws IndexOutOfBoundsException, IllegalArgumentException {
+    public int pairsWith(int kind, int parameter, int variance)
+            throws IndexOutOfBoundsException, IllegalArgumentException {
         needParameter(kind, parameter);
         needWithin(variance, IN);
         int told = kinds.variances[2 * kind + parameter];
