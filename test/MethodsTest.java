@@ -23,24 +23,6 @@ final class MethodsTest extends Promises {
         test.check.end();
     }
 
-    private static int plainMethod(BoundWright x, int kind, int name, int first, int second) {
-        return x.method(kind, name, first, second, NONE, INT, false);
-    }
-
-    /** All five answers of a call: CHOSEN, phase, CODE of RESULT, CODE of what VARIABLE is, CAST. */
-    private void called(String what, BoundWright x, int type, int name, int[] given, int... due) {
-        int[] all = {NONE, NONE, NONE};
-        System.arraycopy(given, 0, all, 0, given.length);
-        for (int k = 0; k < 5; k++) {
-            int wanted = k < due.length ? due[k] : NONE;
-            check.due(what + ", call " + k, x.call(type, name, all[0], all[1], all[2], k), wanted);
-        }
-    }
-
-    private static int[] given(int... types) {
-        return types;
-    }
-
     // ---- promise 14
 
     private void methodTells() {

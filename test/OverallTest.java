@@ -20,24 +20,6 @@ final class OverallTest extends Promises {
         test.check.end();
     }
 
-    /** All faults, one after the other: each as its number, its class, and its method. */
-    private void faults(String what, BoundWright x, int... due) {
-        StringBuilder found = new StringBuilder();
-        for (int k = 0; k < x.many(3); k++) {
-            found.append(x.fault(k, 0)).append(' ').append(x.fault(k, 1)).append(' ').append(x.fault(k, 2)).append(' ');
-        }
-        StringBuilder wanted = new StringBuilder();
-        for (int each : due) {
-            wanted.append(each).append(' ');
-        }
-        check.due(what + ", fault()", found.toString(), wanted.toString());
-        check.due(what + ", many(3)", x.many(3), due.length / 3);
-    }
-
-    private static int method(BoundWright x, int kind, int name, int first, int second, int result) {
-        return x.method(kind, name, first, second, NONE, result, false);
-    }
-
     // ---- promise 19
 
     private void faultOfTwoWays() {

@@ -29,10 +29,6 @@ final class TypesTest extends Promises {
         test.check.end();
     }
 
-    private static int code(BoundWright x, int type) {
-        return x.ofType(type, 2);
-    }
-
     /** Whether the first is below the other one, and whether the other way round. */
     private void below(String what, BoundWright x, int one, int other, boolean due, boolean dueTurned) {
         check.due(what + ", isBelow", x.isBelow(one, other), due);
@@ -130,8 +126,8 @@ final class TypesTest extends Promises {
         check.due("parameter(pair, 0)", x.parameter(pair, 0), 6);
         check.due("parameter(list, 0)", x.parameter(list, 0), 7);
         check.due("told again", x.parameter(pair, 1), 5);
-        check.due("CODE of it", code(x, 5), 10 + 2 * pair + 1);
-        check.due("CODE of the first", code(x, 6), 10 + 2 * pair);
+        check.due("CODE of it", codeOf(x, 5), 10 + 2 * pair + 1);
+        check.due("CODE of the first", codeOf(x, 6), 10 + 2 * pair);
         check.bounds("no second one", x, () -> x.parameter(list, 1));
         for (int none : new int[] {-1, 2, MOST, LEAST}) {
             check.bounds("parameter(pair, " + none + ")", x, () -> x.parameter(pair, none));
@@ -187,13 +183,13 @@ final class TypesTest extends Promises {
             check.due("ofType(" + types[k] + ", 3)", x.ofType(types[k], 3), closed[k]);
             check.due("ofType(" + types[k] + ", 4)", x.ofType(types[k], 4), 1);
         }
-        check.due("CODE of an ARRAY, the rest", code(x, x.array(twice)), 17 * 6939 + 5 - 99991);
+        check.due("CODE of an ARRAY, the rest", codeOf(x, x.array(twice)), 17 * 6939 + 5 - 99991);
         int ints = x.array(INT);
         check.due("ERASED of an ARRAY of INT", x.ofType(ints, 1), 1100);
         check.due("ERASED of an ARRAY of VARIABLE", x.ofType(x.array(VARIABLE), 1), 1000);
         x.bound(pair, 1, of);
         check.due("ERASED of what its BOUND is now", x.ofType(array, 1), 2000 + list);
-        check.due("CODE stays", code(x, second), 10 + 2 * pair + 1);
+        check.due("CODE stays", codeOf(x, second), 10 + 2 * pair + 1);
     }
 
     private void ofTypeKeeps() {
@@ -360,33 +356,6 @@ final class TypesTest extends Promises {
         below("no class above", x, lowOfBox, BOX, false, false);
     }
 
-    /**
-     * Classes A0 to A7: A0 is below N of A1, which is IN, if A1 is below N of A2, and so on, each 1 deeper; at last,
-     * 7 deep, A7 is asked about, which extends L of BOX.
-     */
-    private static final class Chain {
-        final BoundWright x = new BoundWright();
-        final int n = x.kind(IN, NONE, false);
-        final int[] kinds = new int[8];
-        final int[] types = new int[8];
-        final int[] ofTypes = new int[8];
-
-        /** From the class before skipped, none is told to extend anything: what its test wants. */
-        Chain(int endArgument, int varianceOfEnd, int skipped) {
-            int l = x.kind(varianceOfEnd, NONE, false);
-            for (int k = 0; k < 8; k++) {
-                kinds[k] = x.kind(NONE, NONE, false);
-                types[k] = x.of(kinds[k], 0, 0);
-                ofTypes[k] = k == 0 ? NONE : x.of(n, exact(types[k]), 0);
-            }
-            for (int k = skipped; k < 6; k++) {
-                x.extend(kinds[k], x.of(n, exact(ofTypes[k + 2]), 0));
-            }
-            x.extend(kinds[6], x.of(n, exact(x.of(l, endArgument, 0)), 0));
-            x.extend(kinds[7], x.of(l, exact(BOX), 0));
-        }
-    }
-
     private static boolean isChainBelow(int endArgument, int varianceOfEnd, int from) {
         Chain chain = new Chain(endArgument, varianceOfEnd, 0);
         return chain.x.isBelow(chain.types[from], chain.ofTypes[from + 1]);
@@ -441,7 +410,7 @@ final class TypesTest extends Promises {
         int of = x.of(n, exact(type), 0);
         x.extend(c, x.of(n, exact(of), 0));
         check.due("without an end", x.isBelow(type, of), false);
-        check.due("and its join", x.join(type, of), code(x, x.of(n, ANY, 0)));
+        check.due("and its join", x.join(type, of), codeOf(x, x.of(n, ANY, 0)));
     }
 
     // ---- promise 11
@@ -490,14 +459,14 @@ final class TypesTest extends Promises {
         int lefts = x.array(leftType);
         int rights = x.array(rightType);
         int ints = x.array(INT);
-        join("ARRAYS", x, lefts, rights, code(x, tops));
-        join("ARRAYS, one below", x, lefts, tops, code(x, tops));
+        join("ARRAYS", x, lefts, rights, codeOf(x, tops));
+        join("ARRAYS, one below", x, lefts, tops, codeOf(x, tops));
         join("an ARRAY of INT and another", x, ints, lefts, 50);
-        join("ARRAYS of INT", x, ints, ints, code(x, ints));
-        join("ARRAYS of ARRAYS", x, x.array(lefts), x.array(rights), code(x, x.array(tops)));
-        join("ARRAYS of ARRAYS, one of INT", x, x.array(ints), x.array(lefts), code(x, x.array(OBJECT)));
+        join("ARRAYS of INT", x, ints, ints, codeOf(x, ints));
+        join("ARRAYS of ARRAYS", x, x.array(lefts), x.array(rights), codeOf(x, x.array(tops)));
+        join("ARRAYS of ARRAYS, one of INT", x, x.array(ints), x.array(lefts), codeOf(x, x.array(OBJECT)));
         join("an ARRAY and a class", x, lefts, leftType, 50);
-        join("ARRAYS of PARAMETERS", x, x.array(first), rights, code(x, tops));
+        join("ARRAYS of PARAMETERS", x, x.array(first), rights, codeOf(x, tops));
     }
 
     private void joinOfClasses() {
@@ -536,27 +505,27 @@ final class TypesTest extends Promises {
         int ofLeft = x.of(list, exact(leftType), 0);
         int outOfObject = x.of(list, out(OBJECT), 0);
         int ofAny = x.of(list, ANY, 0);
-        join("EXACT ones", x, ofBox, ofLeft, code(x, outOfObject));
-        join("EXACT and OUT", x, ofBox, x.of(list, out(leftType), 0), code(x, outOfObject));
-        join("EXACT and IN", x, ofBox, x.of(list, in(leftType), 0), code(x, ofAny));
-        join("EXACT and ANY", x, ofBox, ofAny, code(x, ofAny));
+        join("EXACT ones", x, ofBox, ofLeft, codeOf(x, outOfObject));
+        join("EXACT and OUT", x, ofBox, x.of(list, out(leftType), 0), codeOf(x, outOfObject));
+        join("EXACT and IN", x, ofBox, x.of(list, in(leftType), 0), codeOf(x, ofAny));
+        join("EXACT and ANY", x, ofBox, ofAny, codeOf(x, ofAny));
         join("IN of the parameter", x, x.of(sink, exact(BOX), 0), x.of(sink, exact(leftType), 0),
-                code(x, x.of(sink, ANY, 0)));
+                codeOf(x, x.of(sink, ANY, 0)));
         join("OUT of the parameter", x, x.of(source, exact(BOX), 0), x.of(source, exact(leftType), 0),
-                code(x, x.of(source, out(OBJECT), 0)));
+                codeOf(x, x.of(source, out(OBJECT), 0)));
         int nested = x.of(list, out(ofAny), 0);
         join("ANY in one that is asked for another", x, x.of(list, exact(ofBox), 0), x.of(list, exact(ofLeft), 0),
-                code(x, nested));
+                codeOf(x, nested));
         join("over ARRAYS", x, x.of(list, exact(x.array(ofBox)), 0), x.of(list, exact(x.array(ofLeft)), 0),
-                code(x, x.of(list, out(x.array(ofAny)), 0)));
+                codeOf(x, x.of(list, out(x.array(ofAny)), 0)));
         int parameter = x.parameter(low, 0);
         x.bound(low, 0, ofLeft);
-        join("over BOUNDS", x, x.of(list, exact(parameter), 0), x.of(list, exact(ofBox), 0), code(x, nested));
-        join("over BOUNDS, not inside", x, parameter, ofBox, code(x, outOfObject));
+        join("over BOUNDS", x, x.of(list, exact(parameter), 0), x.of(list, exact(ofBox), 0), codeOf(x, nested));
+        join("over BOUNDS, not inside", x, parameter, ofBox, codeOf(x, outOfObject));
         int lowOfAny = x.of(low, ANY, 0);
         x.extend(low, x.of(list, exact(parameter), 0));
-        join("both as the class above", x, x.of(low, exact(BOX), 0), ofLeft, code(x, outOfObject));
-        join("the same as the class above, ANY", x, lowOfAny, ofLeft, code(x, ofAny));
+        join("both as the class above", x, x.of(low, exact(BOX), 0), ofLeft, codeOf(x, outOfObject));
+        join("the same as the class above, ANY", x, lowOfAny, ofLeft, codeOf(x, ofAny));
     }
 
     // ---- promise 12
@@ -575,9 +544,9 @@ final class TypesTest extends Promises {
         int[] arguments = {exact(BOX), out(BOX), in(BOX), ANY, exact(element), out(first)};
         for (int argument : arguments) {
             int type = x.of(low, argument, 0);
-            check.due("as itself", x.as(type, low), code(x, type));
-            check.due("as pair, " + argument, x.as(type, pair), code(x, x.of(pair, exact(ofBoxes), argument)));
-            check.due("as list, " + argument, x.as(type, list), code(x, x.of(list, argument, 0)));
+            check.due("as itself", x.as(type, low), codeOf(x, type));
+            check.due("as pair, " + argument, x.as(type, pair), codeOf(x, x.of(pair, exact(ofBoxes), argument)));
+            check.due("as list, " + argument, x.as(type, list), codeOf(x, x.of(list, argument, 0)));
             check.due("as OBJECT", x.as(type, 0), 50);
             check.due("as BOX", x.as(type, 1), NONE);
         }
@@ -602,12 +571,12 @@ final class TypesTest extends Promises {
         x.extend(low, x.of(other, 0, 0));
         x.extend(low, x.of(one, 0, 0));
         x.extend(one, ofBox);
-        check.due("the only way", x.as(lowType, list), code(x, ofBox));
+        check.due("the only way", x.as(lowType, list), codeOf(x, ofBox));
         x.extend(other, ofAny);
-        check.due("the way that was told first", x.as(lowType, list), code(x, ofAny));
+        check.due("the way that was told first", x.as(lowType, list), codeOf(x, ofAny));
         check.due("and so BELOW", x.isBelow(lowType, ofBox), false);
         x.extend(low, ofBox);
-        check.due("not the shortest one", x.as(lowType, list), code(x, ofAny));
+        check.due("not the shortest one", x.as(lowType, list), codeOf(x, ofAny));
     }
 
     // ---- promise 13
