@@ -1,4 +1,3 @@
-import java.math.BigInteger;
 import java.util.ArrayList;
 import java.util.List;
 
@@ -500,10 +499,6 @@ final class EdgesOfFaultsTest extends Promises {
         mean("2, 2 and 3", z, 7.0 / 3);
     }
 
-    private void mean(String what, BoundWright x, double due) {
-        check.due("meanMembers(), " + what, String.valueOf(x.meanMembers()), String.valueOf(due));
-    }
-
     /** "how many FAULTS there would be, if it was not there": of each METHOD, its own, and those of others by it. */
     private void withoutEachMethod() {
         BoundWright x = new BoundWright();
@@ -580,7 +575,7 @@ final class EdgesOfFaultsTest extends Promises {
         for (int each : all) {
             numbers.add((long) each);
         }
-        check.due("digest()", new BoundWright().digest(), summed(numbers));
+        check.due("digest()", new BoundWright().digest(), Digest.summed(numbers));
     }
 
     /** "which wraps around as a 64-bit integer": with METHODS and FAULTS, of which some numbers are NONE. */
@@ -595,52 +590,9 @@ final class EdgesOfFaultsTest extends Promises {
         method(x, source, 0, element, bad, bad);
         method(x, low, 0, VARIABLE, x.of(source, ANY, ANY), INT);
         faults("one with NONE", x, 3, source, 0, 2, low, NONE);
-        check.due("digest()", x.digest(), summed(numbersOf(x)));
+        check.due("digest()", x.digest(), Digest.of(x));
         fillMethods(x, 7, METHODS);
         fillKinds(x, KINDS);
-        check.due("digest() then", x.digest(), summed(numbersOf(x)));
-    }
-
-    /** The numbers of which the digest is made, in their order. */
-    private static List<Long> numbersOf(BoundWright x) {
-        List<Long> all = new ArrayList<>();
-        for (int what = 0; what <= 6; what++) {
-            all.add((long) x.many(what));
-        }
-        for (int kind = 0; kind < x.many(0); kind++) {
-            for (int what = 0; what <= 7; what++) {
-                all.add((long) x.ofKind(kind, what));
-            }
-            all.add(x.areAll(OBJECT, 1 << kind) ? 1L : 0L);
-        }
-        for (int type = 0; type < x.many(1); type++) {
-            for (int what = 0; what <= 5; what++) {
-                all.add((long) x.ofType(type, what));
-            }
-            for (int smaller = 0; smaller < type; smaller++) {
-                all.add((long) x.join(type, smaller));
-            }
-        }
-        for (int method = 0; method < x.many(2); method++) {
-            for (int what = 0; what <= 5; what++) {
-                all.add((long) x.ofMethod(method, what));
-            }
-            all.add((long) x.faultsWithout(method));
-        }
-        for (int k = 0; k < x.many(3); k++) {
-            for (int what = 0; what <= 2; what++) {
-                all.add((long) x.fault(k, what));
-            }
-        }
-        return all;
-    }
-
-    /** The checksum without any wrapping around on the way: at the end the lowest 64 bits of a number of any size. */
-    private static long summed(List<Long> numbers) {
-        BigInteger d = BigInteger.valueOf(58134);
-        for (long each : numbers) {
-            d = d.multiply(BigInteger.valueOf(31)).add(BigInteger.valueOf(each));
-        }
-        return d.longValue();
+        check.due("digest() then", x.digest(), Digest.of(x));
     }
 }

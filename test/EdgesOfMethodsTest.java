@@ -26,6 +26,7 @@ final class EdgesOfMethodsTest extends Promises {
         test.callsWithUpToThree();
         test.callNumbers();
         test.phaseOneAndTwo();
+        test.formalsAsTheyArePutIn();
         test.intAndBox();
         test.atLeastAllButTheLast();
         test.firstPhaseInWhichOneSuits();
@@ -313,6 +314,11 @@ final class EdgesOfMethodsTest extends Promises {
         check.due("turned as there", x.ofMethod(x.method(low, 0, turned, NONE, NONE, INT, false), 3), 1 << above);
         check.due("not turned", x.ofMethod(x.method(low, 0, plain, NONE, NONE, INT, false), 3), 0);
         check.due("another MODE", x.ofMethod(x.method(low, 0, others, NONE, NONE, INT, false), 3), 0);
+        int array = x.method(pair, 1, x.array(x.array(x.parameter(pair, 1))), NONE, NONE, INT, false);
+        int same = x.array(x.array(second));
+        check.due("ARRAYS", x.ofMethod(x.method(low, 1, same, NONE, NONE, INT, false), 3), 1 << array);
+        check.due("ARRAYS of the other one", x.ofMethod(x.method(low, 1, x.array(x.array(first)), NONE, NONE, INT,
+                false), 3), 0);
     }
 
     /** OVERRIDES "AS the other CLASS": by the first way, which can be another one when more is told. */
@@ -462,6 +468,25 @@ final class EdgesOfMethodsTest extends Promises {
         called("the first never", x, OBJECT, 0, given(OBJECT, INT, INT), NONE);
         called("the second never", x, OBJECT, 0, given(BOX, NULL, INT), NONE);
         called("less", x, OBJECT, 0, given(BOX, INT), NONE);
+    }
+
+    /** "their FORMALS ... with the ARGUMENTS of the TYPE AS their CLASS PUT in": the same as one that is told. */
+    private void formalsAsTheyArePutIn() {
+        BoundWright x = new BoundWright();
+        int list = x.kind(NEITHER, NONE, false);
+        int low = x.kind(NONE, NONE, false);
+        int array = x.array(x.parameter(list, 0));
+        int boxes = x.array(BOX);
+        int ofBoxes = x.of(list, exact(boxes), 0);
+        x.extend(low, x.of(list, exact(BOX), 0));
+        int plain = x.method(list, 0, array, NONE, NONE, INT, false);
+        int inside = x.method(list, 1, x.of(list, exact(array), 0), NONE, NONE, INT, false);
+        int lowType = x.of(low, 0, 0);
+        called("an ARRAY", x, lowType, 0, given(boxes), plain, 1, 1, 50);
+        called("another ARRAY", x, lowType, 0, given(x.array(OBJECT)), NONE);
+        called("an ARRAY as an ARGUMENT", x, lowType, 1, given(ofBoxes), inside, 1, 1, 50);
+        called("another ARRAY as an ARGUMENT", x, lowType, 1, given(x.of(list, exact(x.array(OBJECT)), 0)), NONE);
+        called("OUT of it", x, lowType, 1, given(x.of(list, out(boxes), 0)), NONE);
     }
 
     /** "INT, if BOX is BELOW the FORMAL, and what is BELOW BOX (but NULL), if that is INT". */

@@ -27,6 +27,8 @@ final class LanguageTest {
                 .replaceAll("\"[^\"\n]*\"", "\"\"");
         test.words(text);
         test.making(text);
+        test.names(text);
+        test.loops(text);
         test.sizes(text);
         test.check.end();
     }
@@ -49,6 +51,26 @@ final class LanguageTest {
         int thrown = count(text, "throw new ");
         check.due("rule 12, what is made", count(text, "\\bnew\\b"), fields + parts + thrown);
         check.due("the parts are made in the constructor", parts, 7);
+    }
+
+    private void names(String text) {
+        Matcher method = Pattern.compile("\\bprivate (?:static )?[a-z\\[\\]]+ (\\w+)\\(").matcher(text);
+        int methods = 0;
+        while (method.find()) {
+            methods++;
+            int faces = count(text, "\n    public [a-z]+ " + method.group(1) + "\\(");
+            check.due("rule 1, a private " + method.group(1), faces, 0);
+        }
+        check.due("the private methods are found", methods > 60, true);
+    }
+
+    /** Rule 9: each loop counts, and looks at its counter in its own line. */
+    private void loops(String text) {
+        check.due("rule 9, for", count(text, "\\bfor \\("),
+                count(text, "\\bfor \\(int (\\w+) = [^;]+; [^;]*\\b\\1 [<>]=? [^;]+; \\1(\\+\\+|--)\\)"));
+        check.due("rule 9, while", count(text, "\\bwhile \\("),
+                count(text, "\\bwhile \\([^\n]*\\b(count > 0|arrays < DEEPEST_ERASED)\\)"));
+        check.due("rule 9, do", count(text, "\\bdo \\{"), 0);
     }
 
     private void sizes(String text) {

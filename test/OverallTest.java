@@ -245,10 +245,6 @@ final class OverallTest extends Promises {
         mean("of four", x, 5.0 / 4);
     }
 
-    private void mean(String what, BoundWright x, double due) {
-        check.due("meanMembers(), " + what, String.valueOf(x.meanMembers()), String.valueOf(due));
-    }
-
     // ---- promise 22
 
     private void pairsWith() {
@@ -345,55 +341,21 @@ final class OverallTest extends Promises {
 
     private void digestSums() {
         BoundWright x = new BoundWright();
-        check.due("digest() of a new one", x.digest(), summed(x));
+        check.due("digest() of a new one", x.digest(), Digest.of(x));
         int list = x.kind(OUT, NONE, true);
         int low = x.kind(NEITHER, IN, false);
         int element = x.parameter(list, 0);
         int lows = x.parameter(low, 1);
         x.extend(low, x.of(list, exact(lows), 0));
         x.bound(low, 0, x.of(low, ANY, exact(BOX)));
-        check.due("digest() with types", x.digest(), summed(x));
+        check.due("digest() with types", x.digest(), Digest.of(x));
         method(x, list, 0, element, NONE, element);
         int over = method(x, low, 0, lows, NONE, OBJECT);
         x.method(low, 0, x.array(lows), NONE, NONE, VARIABLE, true);
         x.variable(over, BOX);
         check.due("with faults", x.many(3) > 1, true);
-        check.due("digest() with methods", x.digest(), summed(x));
-        check.due("digest() again", x.digest(), summed(x));
-    }
-
-    /** The checksum as the document sums it up, from the answers of the other calls. */
-    private static long summed(BoundWright x) {
-        long d = 58134;
-        for (int what = 0; what <= 6; what++) {
-            d = d * 31 + x.many(what);
-        }
-        for (int kind = 0; kind < x.many(0); kind++) {
-            for (int what = 0; what <= 7; what++) {
-                d = d * 31 + x.ofKind(kind, what);
-            }
-            d = d * 31 + (x.areAll(OBJECT, 1 << kind) ? 1 : 0);
-        }
-        for (int type = 0; type < x.many(1); type++) {
-            for (int what = 0; what <= 5; what++) {
-                d = d * 31 + x.ofType(type, what);
-            }
-            for (int smaller = 0; smaller < type; smaller++) {
-                d = d * 31 + x.join(type, smaller);
-            }
-        }
-        for (int method = 0; method < x.many(2); method++) {
-            for (int what = 0; what <= 5; what++) {
-                d = d * 31 + x.ofMethod(method, what);
-            }
-            d = d * 31 + x.faultsWithout(method);
-        }
-        for (int k = 0; k < x.many(3); k++) {
-            for (int what = 0; what <= 2; what++) {
-                d = d * 31 + x.fault(k, what);
-            }
-        }
-        return d;
+        check.due("digest() with methods", x.digest(), Digest.of(x));
+        check.due("digest() again", x.digest(), Digest.of(x));
     }
 
     private void askingChangesNothing() {

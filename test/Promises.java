@@ -98,6 +98,10 @@ abstract class Promises {
         return x.method(kind, name, first, second, NONE, result, false);
     }
 
+    final void mean(String what, BoundWright x, double due) {
+        check.due("meanMembers(), " + what, String.valueOf(x.meanMembers()), String.valueOf(due));
+    }
+
     static int codeOf(BoundWright x, int type) {
         return x.ofType(type, 2);
     }

@@ -535,10 +535,12 @@ public final class BoundWright {
         /** What would be too deep or too much for any types that can be told is refused: OBJECT. */
         int make(int sort, int kind, int one, int two) {
             int chain = chain(sort, kind, one, two);
-            for (int form = heads[chain]; form >= 0; form = next[form]) {
-                if (what[form] == sort && owner[form] == kind && first[form] == one && second[form] == two) {
-                    return form;
+            int link = heads[chain];
+            for (int step = 0; step < count && link >= 0; step++) {
+                if (what[link] == sort && owner[link] == kind && first[link] == one && second[link] == two) {
+                    return link;
                 }
+                link = next[link];
             }
             int deepness = deepOf(sort, one, two);
             if (count >= ROOM || deepness > DEEPEST) {
@@ -1487,7 +1489,8 @@ public final class BoundWright {
          * What is made for that, the caller gives back.
          */
         int choose(int set) {
-            for (phase = 1; phase <= PHASES; phase++) {
+            for (int asked = 1; asked <= PHASES; asked++) {
+                phase = asked;
                 int suiting = suitingOf(set);
                 if (suiting != 0) {
                     return mostSpecialOf(suiting);
